@@ -158,6 +158,7 @@ public final class CranepoolPromises {
         due("sixth", STATE, () -> site.addCrane(1, 1, 1, 1, 1));
         due("sixth with a wrong number", ARGUMENT, () -> site.addCrane(1, 1, 41, 1, 1));
         due("five stay", 5, site::cranes);
+        due("the sixth is none", NO_SUCH, () -> site.code(5));
         due("kept column, row and radius", 5 + 6 * 64 + 7 * 4096, () -> site.code(3));
         due("kept weight", 8, () -> site.limit(3, 5, 6));
         due("kept moment", 4, () -> site.limit(3, 7, 6));
@@ -359,6 +360,7 @@ public final class CranepoolPromises {
         }
         due("seventh pour", STATE, () -> small.addPour(0, 0, 0, 0, 1, 1, 2, 0));
         due("no lifts of it", 12, small::lifts);
+        due("the seventh is none", NO_SUCH, () -> small.firstOf(6));
     }
 
     private static Object addPour(Cranepool site, int[] n) {
@@ -462,6 +464,10 @@ public final class CranepoolPromises {
         due("one does not wait", STATE, () -> site.planPour(pour, 1));
         int later = site.addPour(0, 0, 0, 0, 1, 60, 2, 60);
         due("behind the lift under way and the hour", 120, () -> site.planPour(later, 0));
+        Cranepool empty = oneCrane();
+        empty.addPour(0, 0, 0, 0, 1, 20, 3, 0);
+        empty.pass(100);
+        due("not before the present minute", 100, () -> empty.planPour(0, 0));
     }
 
     private static void planPourWaits() {
