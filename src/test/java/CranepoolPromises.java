@@ -1,68 +1,5 @@
-import java.util.NoSuchElementException;
-
 /** At least one test for each promise of the document: ordinary inputs, its edges, and wrong inputs. */
-public final class CranepoolPromises {
-    private interface Call {
-        Object answer();
-    }
-
-    private static final Class<?> NO_SUCH = NoSuchElementException.class;
-    private static final Class<?> ARGUMENT = IllegalArgumentException.class;
-    private static final Class<?> STATE = IllegalStateException.class;
-    private static final Class<?> UNSUPPORTED = UnsupportedOperationException.class;
-    private static final Class<?> ARITHMETIC = ArithmeticException.class;
-    private static final int[] NO_NUMBERS = {-1, 40, 99, Integer.MIN_VALUE, Integer.MAX_VALUE};
-
-    private static int checks;
-    private static int wrong;
-    private static int promise;
-
-    private static void due(String what, Object want, Call call) {
-        checks++;
-        Object got;
-        try {
-            got = call.answer();
-        } catch (RuntimeException e) {
-            got = e.getClass();
-        }
-        if (!want.equals(got)) {
-            wrong++;
-            System.out.println("promise " + promise + ": " + what + " answered " + got + ", due is " + want);
-        }
-    }
-
-    private static void dueForNoNumbers(String what, java.util.function.IntFunction<Object> call) {
-        for (int number : NO_NUMBERS) {
-            due(what + " for " + number, NO_SUCH, () -> call.apply(number));
-        }
-    }
-
-    /** One strong crane in the middle, with every permit. */
-    private static Cranepool oneCrane() {
-        Cranepool site = new Cranepool();
-        site.addCrane(20, 20, 40, 999, 9999);
-        site.permit(0, 0, 24);
-        return site;
-    }
-
-    /** Two strong cranes that reach every place that the tests use, with every permit. */
-    private static Cranepool twoCranes() {
-        Cranepool site = oneCrane();
-        site.addCrane(20, 21, 40, 999, 9999);
-        site.permit(1, 0, 24);
-        return site;
-    }
-
-    /** A lift that takes some minutes, in the air of the first square alone. */
-    private static int cornerLift(Cranepool site, int minutes) {
-        return site.addLift(0, 0, 4, 4, 10, minutes);
-    }
-
-    /** A lift that takes some minutes, in the air of the last square alone. */
-    private static int farLift(Cranepool site, int minutes) {
-        return site.addLift(35, 35, 39, 39, 10, minutes);
-    }
-
+public final class CranepoolPromises extends Checks {
     public static void main(String[] args) {
         newObject();
         addCrane();
@@ -110,14 +47,11 @@ public final class CranepoolPromises {
         code();
         workShare();
         meanStart();
-        System.out.println(checks - wrong + " passed, " + wrong + " failed");
-        if (wrong > 0) {
-            System.exit(1);
-        }
+        finish();
     }
 
     private static void newObject() {
-        promise = 1;
+        part = "promise 1";
         Cranepool site = new Cranepool();
         due("cranes", 0, site::cranes);
         due("lifts", 0, site::lifts);
@@ -137,21 +71,17 @@ public final class CranepoolPromises {
     }
 
     private static void addCrane() {
-        promise = 2;
+        part = "promise 2";
         Cranepool site = new Cranepool();
-        int[] least = {0, 0, 1, 1, 1};
-        int[] most = {39, 39, 40, 999, 9999};
         for (int i = 0; i < 5; i++) {
-            int[] below = least.clone();
-            below[i]--;
-            int[] above = most.clone();
-            above[i]++;
+            int[] below = with(CRANE_LEAST, i, CRANE_LEAST[i] - 1);
+            int[] above = with(CRANE_MOST, i, CRANE_MOST[i] + 1);
             due("number " + i + " too low", ARGUMENT, () -> addCrane(site, below));
             due("number " + i + " too high", ARGUMENT, () -> addCrane(site, above));
         }
         due("what throws adds nothing", 0, site::cranes);
-        due("least numbers", 0, () -> addCrane(site, least));
-        due("most numbers", 1, () -> addCrane(site, most));
+        due("least numbers", 0, () -> addCrane(site, CRANE_LEAST));
+        due("most numbers", 1, () -> addCrane(site, CRANE_MOST));
         due("third", 2, () -> site.addCrane(5, 6, 7, 8, 9));
         due("the same again", 3, () -> site.addCrane(5, 6, 7, 8, 9));
         due("fifth", 4, () -> site.addCrane(1, 1, 1, 1, 1));
@@ -164,12 +94,8 @@ public final class CranepoolPromises {
         due("kept moment", 4, () -> site.limit(3, 7, 6));
     }
 
-    private static Object addCrane(Cranepool site, int[] n) {
-        return site.addCrane(n[0], n[1], n[2], n[3], n[4]);
-    }
-
     private static void permit() {
-        promise = 3;
+        part = "promise 3";
         Cranepool site = new Cranepool();
         site.addCrane(10, 10, 15, 50, 400);
         site.addCrane(10, 10, 15, 50, 400);
@@ -195,7 +121,7 @@ public final class CranepoolPromises {
     }
 
     private static void endPermit() {
-        promise = 4;
+        part = "promise 4";
         Cranepool site = twoCranes();
         int early = cornerLift(site, 60);
         int across = cornerLift(site, 20);
@@ -245,7 +171,7 @@ public final class CranepoolPromises {
     }
 
     private static void setWind() {
-        promise = 5;
+        part = "promise 5";
         Cranepool site = twoCranes();
         int heavy = site.addLift(20, 20, 20, 20, 900, 10);
         int light = site.addLift(20, 20, 20, 20, 399, 10);
@@ -293,21 +219,17 @@ public final class CranepoolPromises {
     }
 
     private static void addLift() {
-        promise = 6;
+        part = "promise 6";
         Cranepool site = new Cranepool();
-        int[] least = {0, 0, 0, 0, 1, 1};
-        int[] most = {39, 39, 39, 39, 999, 60};
         for (int i = 0; i < 6; i++) {
-            int[] below = least.clone();
-            below[i]--;
-            int[] above = most.clone();
-            above[i]++;
+            int[] below = with(LIFT_LEAST, i, LIFT_LEAST[i] - 1);
+            int[] above = with(LIFT_MOST, i, LIFT_MOST[i] + 1);
             due("number " + i + " too low", ARGUMENT, () -> addLift(site, below));
             due("number " + i + " too high", ARGUMENT, () -> addLift(site, above));
         }
         due("what throws adds nothing", 0, site::lifts);
-        due("least numbers", 0, () -> addLift(site, least));
-        due("most numbers", 1, () -> addLift(site, most));
+        due("least numbers", 0, () -> addLift(site, LIFT_LEAST));
+        due("most numbers", 1, () -> addLift(site, LIFT_MOST));
         due("it waits", 'w', () -> site.stateOf(1));
         due("it is of no pour", -1, () -> site.pourOf(1));
         for (int i = 2; i < 40; i++) {
@@ -319,27 +241,19 @@ public final class CranepoolPromises {
         due("40 stay", 40, site::lifts);
     }
 
-    private static Object addLift(Cranepool site, int[] n) {
-        return site.addLift(n[0], n[1], n[2], n[3], n[4], n[5]);
-    }
-
     private static void addPour() {
-        promise = 7;
+        part = "promise 7";
         Cranepool site = new Cranepool();
-        int[] least = {0, 0, 0, 0, 1, 1, 2, 0};
-        int[] most = {39, 39, 39, 39, 999, 60, 8, 60};
         for (int i = 0; i < 8; i++) {
-            int[] below = least.clone();
-            below[i]--;
-            int[] above = most.clone();
-            above[i]++;
+            int[] below = with(POUR_LEAST, i, POUR_LEAST[i] - 1);
+            int[] above = with(POUR_MOST, i, POUR_MOST[i] + 1);
             due("number " + i + " too low", ARGUMENT, () -> addPour(site, below));
             due("number " + i + " too high", ARGUMENT, () -> addPour(site, above));
         }
         due("huge number of lifts", ARGUMENT, () -> site.addPour(0, 0, 0, 0, 1, 1, Integer.MAX_VALUE, 0));
         due("what throws adds nothing", 0, () -> site.lifts() + site.pours());
-        due("least numbers", 0, () -> addPour(site, least));
-        due("most numbers", 1, () -> addPour(site, most));
+        due("least numbers", 0, () -> addPour(site, POUR_LEAST));
+        due("most numbers", 1, () -> addPour(site, POUR_MOST));
         due("lifts", 10, site::lifts);
         due("all wait", 10, site::waiting);
         due("first pour", 0, () -> site.pourOf(1));
@@ -363,12 +277,8 @@ public final class CranepoolPromises {
         due("the seventh is none", NO_SUCH, () -> small.firstOf(6));
     }
 
-    private static Object addPour(Cranepool site, int[] n) {
-        return site.addPour(n[0], n[1], n[2], n[3], n[4], n[5], n[6], n[7]);
-    }
-
     private static void plan() {
-        promise = 8;
+        part = "promise 8";
         Cranepool site = twoCranes();
         int one = cornerLift(site, 30);
         int two = cornerLift(site, 45);
@@ -410,7 +320,7 @@ public final class CranepoolPromises {
     }
 
     private static void planAt() {
-        promise = 9;
+        part = "promise 9";
         Cranepool site = twoCranes();
         int one = cornerLift(site, 30);
         int two = cornerLift(site, 30);
@@ -442,7 +352,7 @@ public final class CranepoolPromises {
     }
 
     private static void planPour() {
-        promise = 10;
+        part = "promise 10";
         Cranepool site = twoCranes();
         int pour = site.addPour(0, 0, 0, 0, 1, 20, 3, 0);
         int single = cornerLift(site, 10);
@@ -513,7 +423,7 @@ public final class CranepoolPromises {
     }
 
     private static void unplan() {
-        promise = 11;
+        part = "promise 11";
         Cranepool site = oneCrane();
         int one = cornerLift(site, 30);
         int two = cornerLift(site, 30);
@@ -541,7 +451,7 @@ public final class CranepoolPromises {
     }
 
     private static void pass() {
-        promise = 12;
+        part = "promise 12";
         Cranepool site = twoCranes();
         int one = cornerLift(site, 10);
         int two = cornerLift(site, 1);
@@ -579,7 +489,7 @@ public final class CranepoolPromises {
     }
 
     private static void now() {
-        promise = 13;
+        part = "promise 13";
         Cranepool site = new Cranepool();
         due("first", 0, site::now);
         site.pass(7);
@@ -589,7 +499,7 @@ public final class CranepoolPromises {
     }
 
     private static void cranes() {
-        promise = 14;
+        part = "promise 14";
         Cranepool site = new Cranepool();
         for (int i = 0; i < 5; i++) {
             int count = i;
@@ -601,7 +511,7 @@ public final class CranepoolPromises {
     }
 
     private static void lifts() {
-        promise = 15;
+        part = "promise 15";
         Cranepool site = new Cranepool();
         site.addLift(0, 0, 0, 0, 1, 1);
         due("a lift", 1, site::lifts);
@@ -610,7 +520,7 @@ public final class CranepoolPromises {
     }
 
     private static void limit() {
-        promise = 16;
+        part = "promise 16";
         Cranepool site = new Cranepool();
         site.addCrane(10, 10, 5, 50, 203);
         site.addCrane(0, 0, 40, 999, 9999);
@@ -648,7 +558,7 @@ public final class CranepoolPromises {
     }
 
     private static void overlap() {
-        promise = 17;
+        part = "promise 17";
         Cranepool site = new Cranepool();
         site.addCrane(0, 0, 3, 1, 1);
         site.addCrane(6, 0, 3, 1, 1);
@@ -666,7 +576,7 @@ public final class CranepoolPromises {
     }
 
     private static void bothReach() {
-        promise = 18;
+        part = "promise 18";
         Cranepool site = new Cranepool();
         site.addCrane(10, 10, 2, 1, 1);
         site.addCrane(0, 0, 1, 1, 1);
@@ -686,7 +596,7 @@ public final class CranepoolPromises {
     }
 
     private static void reason() {
-        promise = 19;
+        part = "promise 19";
         Cranepool site = new Cranepool();
         site.addCrane(10, 10, 5, 50, 200);
         site.addCrane(12, 10, 5, 50, 200);
@@ -763,7 +673,7 @@ public final class CranepoolPromises {
     }
 
     private static void earliest() {
-        promise = 20;
+        part = "promise 20";
         Cranepool site = earliestSite();
         for (int i = 0; i < EARLIEST.length; i++) {
             int lift = i;
@@ -781,7 +691,7 @@ public final class CranepoolPromises {
     }
 
     private static void earliestByMinutes() {
-        promise = 21;
+        part = "promise 21";
         Cranepool site = earliestSite();
         for (int i = 0; i < EARLIEST.length; i++) {
             int lift = i;
@@ -823,14 +733,8 @@ public final class CranepoolPromises {
         return site;
     }
 
-    private static void passTo(Cranepool site, int minute) {
-        while (site.now() < minute) {
-            site.pass(Math.min(240, minute - site.now()));
-        }
-    }
-
     private static void stateOf() {
-        promise = 22;
+        part = "promise 22";
         Cranepool site = oneCrane();
         int lift = cornerLift(site, 2);
         due("added", 'w', () -> site.stateOf(lift));
@@ -847,7 +751,7 @@ public final class CranepoolPromises {
     }
 
     private static void startOf() {
-        promise = 23;
+        part = "promise 23";
         Cranepool site = oneCrane();
         int lift = cornerLift(site, 2);
         due("it waits", STATE, () -> site.startOf(lift));
@@ -864,7 +768,7 @@ public final class CranepoolPromises {
     }
 
     private static void craneOf() {
-        promise = 24;
+        part = "promise 24";
         Cranepool site = twoCranes();
         int lift = cornerLift(site, 2);
         due("it waits", STATE, () -> site.craneOf(lift));
@@ -881,7 +785,7 @@ public final class CranepoolPromises {
     }
 
     private static void pourOf() {
-        promise = 25;
+        part = "promise 25";
         Cranepool site = new Cranepool();
         site.addLift(0, 0, 0, 0, 1, 1);
         site.addPour(0, 0, 0, 0, 1, 1, 2, 0);
@@ -896,7 +800,7 @@ public final class CranepoolPromises {
     }
 
     private static void airOf() {
-        promise = 26;
+        part = "promise 26";
         Cranepool site = new Cranepool();
         site.addLift(0, 0, 0, 0, 1, 1);
         site.addLift(4, 4, 5, 4, 1, 1);
@@ -918,7 +822,7 @@ public final class CranepoolPromises {
     }
 
     private static void shareAir() {
-        promise = 27;
+        part = "promise 27";
         Cranepool site = new Cranepool();
         site.addLift(0, 0, 12, 12, 1, 1);
         site.addLift(14, 14, 30, 14, 1, 1);
@@ -954,12 +858,12 @@ public final class CranepoolPromises {
         {0, 15, -1}, {0, 1379, -1}, {0, 1380, 1}, {0, 1439, 1}, {1, 0, -1}, {1, 4, -1}, {1, 5, 2}, {1, 6, -1}};
 
     private static void liftAt() {
-        promise = 28;
+        part = "promise 28";
         Cranepool site = liftAtSite();
         for (int[] row : LIFT_AT) {
             due("crane " + row[0] + ", minute " + row[1], row[2], () -> site.liftAt(row[0], row[1]));
         }
-        for (int minute : new int[] {-1, 1440, Integer.MIN_VALUE, Integer.MAX_VALUE}) {
+        for (int minute : NO_MINUTES) {
             due("minute " + minute, ARGUMENT, () -> site.liftAt(0, minute));
         }
         dueForNoNumbers("liftAt", crane -> site.liftAt(crane, 0));
@@ -969,12 +873,12 @@ public final class CranepoolPromises {
     }
 
     private static void liftByMinutes() {
-        promise = 29;
+        part = "promise 29";
         Cranepool site = liftAtSite();
         for (int[] row : LIFT_AT) {
             due("crane " + row[0] + ", minute " + row[1], row[2], () -> site.liftByMinutes(row[0], row[1]));
         }
-        for (int minute : new int[] {-1, 1440, Integer.MIN_VALUE, Integer.MAX_VALUE}) {
+        for (int minute : NO_MINUTES) {
             due("minute " + minute, ARGUMENT, () -> site.liftByMinutes(0, minute));
         }
         dueForNoNumbers("liftByMinutes", crane -> site.liftByMinutes(crane, 0));
@@ -984,7 +888,7 @@ public final class CranepoolPromises {
     }
 
     private static void freeMinutes() {
-        promise = 30;
+        part = "promise 30";
         Cranepool site = new Cranepool();
         site.addCrane(20, 20, 40, 999, 9999);
         due("no permit", 0, () -> site.freeMinutes(0));
@@ -1008,7 +912,7 @@ public final class CranepoolPromises {
     }
 
     private static void atWork() {
-        promise = 31;
+        part = "promise 31";
         Cranepool site = threeAtWork();
         int[][] rows = {{0, 1}, {9, 1}, {10, 2}, {14, 2}, {15, 3}, {19, 3}, {20, 2}, {29, 2}, {30, 1}, {39, 1}, {40, 0},
             {1439, 0}};
@@ -1017,7 +921,7 @@ public final class CranepoolPromises {
         }
         site.pass(40);
         due("done ones count", 3, () -> site.atWork(15));
-        for (int minute : new int[] {-1, 1440, Integer.MIN_VALUE, Integer.MAX_VALUE}) {
+        for (int minute : NO_MINUTES) {
             due("minute " + minute, ARGUMENT, () -> site.atWork(minute));
         }
     }
@@ -1038,7 +942,7 @@ public final class CranepoolPromises {
     }
 
     private static void airAt() {
-        promise = 32;
+        part = "promise 32";
         Cranepool site = threeAtWork();
         long one = Long.MIN_VALUE;
         long two = 3L;
@@ -1050,13 +954,13 @@ public final class CranepoolPromises {
         }
         site.pass(40);
         due("done ones count", one | two | three, () -> site.airAt(15));
-        for (int minute : new int[] {-1, 1440, Integer.MIN_VALUE, Integer.MAX_VALUE}) {
+        for (int minute : NO_MINUTES) {
             due("minute " + minute, ARGUMENT, () -> site.airAt(minute));
         }
     }
 
     private static void squaresAt() {
-        promise = 33;
+        part = "promise 33";
         Cranepool site = threeAtWork();
         int[][] rows = {{0, 1}, {10, 3}, {15, 7}, {20, 6}, {30, 4}, {40, 0}, {1439, 0}};
         for (int[] row : rows) {
@@ -1065,13 +969,13 @@ public final class CranepoolPromises {
         int whole = site.addLift(0, 0, 39, 39, 1, 1);
         site.planAt(whole, 0, 100);
         due("whole site", 64, () -> site.squaresAt(100));
-        for (int minute : new int[] {-1, 1440, Integer.MIN_VALUE, Integer.MAX_VALUE}) {
+        for (int minute : NO_MINUTES) {
             due("minute " + minute, ARGUMENT, () -> site.squaresAt(minute));
         }
     }
 
     private static void pours() {
-        promise = 34;
+        part = "promise 34";
         Cranepool site = new Cranepool();
         for (int i = 0; i < 6; i++) {
             int count = i;
@@ -1082,7 +986,7 @@ public final class CranepoolPromises {
     }
 
     private static void firstOf() {
-        promise = 35;
+        part = "promise 35";
         Cranepool site = new Cranepool();
         site.addPour(0, 0, 0, 0, 1, 1, 2, 0);
         site.addLift(0, 0, 0, 0, 1, 1);
@@ -1094,7 +998,7 @@ public final class CranepoolPromises {
     }
 
     private static void loadsOf() {
-        promise = 36;
+        part = "promise 36";
         Cranepool site = new Cranepool();
         site.addPour(0, 0, 0, 0, 1, 1, 2, 0);
         site.addPour(0, 0, 0, 0, 1, 1, 8, 0);
@@ -1105,7 +1009,7 @@ public final class CranepoolPromises {
     }
 
     private static void longestWait() {
-        promise = 37;
+        part = "promise 37";
         Cranepool site = twoCranes();
         int pour = site.addPour(0, 0, 0, 0, 1, 10, 4, 60);
         site.planAt(cornerLift(site, 5), 1, 10);
@@ -1129,7 +1033,7 @@ public final class CranepoolPromises {
     }
 
     private static void isBroken() {
-        promise = 38;
+        part = "promise 38";
         Cranepool site = oneCrane();
         int pour = site.addPour(0, 0, 0, 0, 1, 60, 3, 0);
         due("all wait", false, () -> site.isBroken(pour));
@@ -1154,7 +1058,7 @@ public final class CranepoolPromises {
     }
 
     private static void waiting() {
-        promise = 39;
+        part = "promise 39";
         Cranepool site = oneCrane();
         cornerLift(site, 10);
         site.addPour(0, 0, 0, 0, 1, 1, 2, 0);
@@ -1169,7 +1073,7 @@ public final class CranepoolPromises {
     }
 
     private static void minutesOf() {
-        promise = 40;
+        part = "promise 40";
         Cranepool site = twoCranes();
         due("none", 0, () -> site.minutesOf(0));
         cornerLift(site, 10);
@@ -1190,7 +1094,7 @@ public final class CranepoolPromises {
     }
 
     private static void lifted() {
-        promise = 41;
+        part = "promise 41";
         Cranepool site = oneCrane();
         int one = site.addLift(20, 20, 20, 20, 999, 1);
         int two = site.addLift(20, 20, 20, 20, 7, 2);
@@ -1207,7 +1111,7 @@ public final class CranepoolPromises {
     }
 
     private static void code() {
-        promise = 42;
+        part = "promise 42";
         Cranepool site = new Cranepool();
         site.addCrane(39, 38, 40, 1, 1);
         site.addCrane(0, 0, 1, 1, 1);
@@ -1221,7 +1125,7 @@ public final class CranepoolPromises {
     }
 
     private static void workShare() {
-        promise = 43;
+        part = "promise 43";
         Cranepool site = new Cranepool();
         site.addCrane(20, 20, 40, 999, 9999);
         due("no permit", ARITHMETIC, () -> site.workShare(0));
@@ -1246,7 +1150,7 @@ public final class CranepoolPromises {
     }
 
     private static void meanStart() {
-        promise = 44;
+        part = "promise 44";
         Cranepool site = twoCranes();
         due("no lift", ARITHMETIC, site::meanStart);
         cornerLift(site, 1);
